@@ -637,33 +637,49 @@ public final class MendBench {
         }
         int right = rightBits(now.body);
         int wrong = ((1 << now.runs.size) - 1) & ~right;
+        int size = listGains(right, wrong);
         int all = 0;
-        for (int i = 0; i < mends.size && i < gains.length; i++) {
-            mends.shape(now.body, i, shaped);
-            int bits = rightBits(shaped);
-            gains[i] = (right & ~bits) == 0 ? bits & wrong : 0;
+        for (int i = 0; i < size && i < gains.length; i++) {
             all |= gains[i];
         }
-        return all == wrong ? fewestMends(wrong) : NONE;
+        return all == wrong ? fewestMends(wrong, size) : NONE;
+    }
+
+    /** Lists, each once, the sets of wrong RUNS that MENDS make RIGHT, and keep all that are RIGHT: how many. */
+    private int listGains(int right, int wrong) {
+        int size = 0;
+        for (int i = 0; i < mends.size; i++) {
+            mends.shape(now.body, i, shaped);
+            int bits = rightBits(shaped);
+            boolean isNew = (right & ~bits) == 0 && (wrong & bits) != 0;
+            for (int j = 0; j < size && j < gains.length && isNew; j++) {
+                isNew = gains[j] != (wrong & bits);
+            }
+            if (isNew && size < gains.length) {
+                gains[size] = wrong & bits;
+                size++;
+            }
+        }
+        return size;
     }
 
     /** How many of the gains cover all the wrong RUNS at the least, worked out for every set of them that can be covered. */
-    private int fewestMends(int wrong) {
+    private int fewestMends(int wrong, int size) {
         for (int set = 0; set <= wrong && set < needs.length; set++) {
             needs[set] = TOO_MANY;
         }
         needs[0] = 0;
         for (int set = 0; set < wrong && set < needs.length; set++) {
             if (needs[set] < TOO_MANY) {
-                addGains(set, Integer.lowestOneBit(wrong & ~set), needs[set] + 1);
+                addGains(set, Integer.lowestOneBit(wrong & ~set), needs[set] + 1, size);
             }
         }
         return wrong >= 0 && wrong < needs.length ? needs[wrong] : NONE;
     }
 
     /** Of a covered set: the sets that one gain more, with this RUN in it, makes. */
-    private void addGains(int set, int run, int need) {
-        for (int i = 0; i < mends.size && i < gains.length; i++) {
+    private void addGains(int set, int run, int need, int size) {
+        for (int i = 0; i < size && i < gains.length; i++) {
             int more = set | gains[i];
             if ((gains[i] & run) != 0 && more >= 0 && more < needs.length && needs[more] > need) {
                 needs[more] = (byte) need;

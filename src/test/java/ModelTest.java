@@ -335,11 +335,34 @@ public final class ModelTest {
         }
     }
 
+    /** RUNS that are right by one MEND each, of a BODY: heaps, and the faults that they show. */
+    private static void mendedRuns(int number) {
+        seed = number * 104729L + 7;
+        MendBench bench = new MendBench();
+        Model model = new Model();
+        oneCall(bench, model, new int[] {0, 3, 0}, number, -1);
+        java.util.List<Model.Mend> all = Model.singles(model.s.body);
+        int runs = all.isEmpty() ? 0 : pick(7);
+        int few = 1 + pick(4);
+        java.util.List<Integer> chosen = new java.util.ArrayList<>();
+        for (int i = 0; i < few; i++) {
+            chosen.add(pick(Math.max(1, all.size())));
+        }
+        for (int i = 0; i < runs; i++) {
+            sought = pick(3) == 0 ? model.s.body : all.get(chosen.get(pick(few))).whole();
+            oneCall(bench, model, new int[] {2, pick(5), pick(5), NEXT_DUE}, number, i);
+            oneCall(bench, model, new int[] {22}, number, i);
+            oneCall(bench, model, new int[] {23, pick(all.size())}, number, i);
+            oneCall(bench, model, new int[] {6, pick(3)}, number, i);
+        }
+    }
+
     public static void main(String[] args) {
         int from = args.length > 0 ? Integer.parseInt(args[0]) : 0;
         int to = args.length > 1 ? Integer.parseInt(args[1]) : 400;
         for (int i = from; i < to && wrong < 20; i++) {
             oneRun(i);
+            mendedRuns(i);
         }
         System.out.println(answers + " answers, " + thrown + " exceptions, " + wrong + " wrong");
         if (wrong != 0) {
