@@ -289,6 +289,15 @@ public final class MendsTest {
         Checks.due("out taught again", 2, () -> b.teach(3));
         Checks.due("out ahead of bound", 4, () -> b.first(true));
         Checks.due("not by order", 14, () -> b.first(false));
+        MendBench c = Checks.withBody("end 1;end 2;end x * 7");
+        c.run(9, 3, 63);
+        // a graft of line 2 on line 0 alone
+        Checks.due("first graft", 6, () -> c.first(false));
+        Checks.due("5 names, 4 signs, 6 bounds, 3 outs, 2 moves ahead of it", 22, () -> c.first(true));
+        c.teach(5);
+        Checks.due("first by graft", 2, () -> c.first(true));
+        c.teach(0);
+        Checks.due("names are the lesser form", 7, () -> c.first(true));
         Checks.putBody(b, "set a = x + 1;end a");
         Checks.due("what was taught stays", 3, () -> b.teach(3));
         b.run(1, 1, 9);

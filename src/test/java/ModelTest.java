@@ -359,7 +359,7 @@ public final class ModelTest {
 
     public static void main(String[] args) {
         int from = args.length > 0 ? Integer.parseInt(args[0]) : 0;
-        int to = args.length > 1 ? Integer.parseInt(args[1]) : 400;
+        int to = args.length > 1 ? Integer.parseInt(args[1]) : 1500;
         for (int i = from; i < to && wrong < 20; i++) {
             oneRun(i);
             mendedRuns(i);

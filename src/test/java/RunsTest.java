@@ -20,7 +20,7 @@ public final class RunsTest {
         Checks.due("no run yet", 0, () -> b.count(1));
         for (int i = 0; i < 12; i++) {
             int k = i;
-            Checks.due("run " + i, i, () -> b.run(15, k, k % 2 == 0 ? 999999 : -999999));
+            Checks.due("run " + i, i, () -> b.run(15 - k, k == 11 ? 15 : k, k % 2 == 0 ? 999999 : -999999));
         }
         Checks.due("13th run", "UnsupportedOperationException", () -> b.run(0, 0, 0));
         Checks.due("13th wrong run", "IllegalArgumentException", () -> b.run(0, 0, 1000000));
@@ -53,6 +53,9 @@ public final class RunsTest {
         end("end x", -999999, 0, -999999);
         end("end x", -1000000, 0, 2000002);
         end("set b = x;end 1", 1000000, 0, 2000002);
+        end("set b = x;end 1", 999999, 0, 1);
+        end("set b = x;end 1", -999999, 0, 1);
+        end("set b = x;end 1", -1000000, 0, 2000002);
         end("set a = 1;skip 1 if x = y;set a = 2;set b = 1", 3, 3, 1);
         end("set a = 1;skip 1 if x = y;set a = 2;set b = 1", 3, 4, 2);
         end("set a = 1;skip 9 if x > y;end 7", 3, 2, 1);
@@ -147,6 +150,29 @@ public final class RunsTest {
         Checks.due("where 3", "NoSuchElementException", () -> b.where(3));
         Checks.due("where -1", "NoSuchElementException", () -> b.where(-1));
         freeLines();
+        freeBesideBlame();
+    }
+
+    private static void freeBesideBlame() {
+        MendBench b = Checks.withBody("set b = x;skip 1 if b < y;set b = y;end b");
+        b.run(1, 5, 1);
+        b.run(5, 2, 1);
+        Checks.due("blame alone", 0b0100, () -> b.where(0));
+        Checks.due("line 0 is free by 1 too", 0b0101, () -> b.where(1));
+        Checks.due("agree on blame", 0b0100, () -> b.where(2));
+        b.run(4, 2, 3);
+        Checks.due("line 0 cannot be 3", 0b0100, () -> b.where(1));
+        b.run(4, 2, 21);
+        Checks.due("21 is too much", 0, () -> b.where(1));
+        Checks.due("none agrees", 0, () -> b.where(2));
+        Checks.due("the blame stays", 0b0100, () -> b.where(0));
+        MendBench c = Checks.withBody("skip 1 if x < 3;set a = 1;set b = 2;end a");
+        c.run(0, 0, 7);
+        c.run(5, 0, 7);
+        c.run(5, 1, 1);
+        // wrong: lines 0 2 3 twice, line 1 once; right: all once
+        Checks.due("blame of the most", 0b1101, () -> c.where(0));
+        Checks.due("free of none: line 1 is not done in the first", 0, () -> c.where(1));
     }
 
     private static void freeLines() {
