@@ -103,6 +103,7 @@ public final class RecordTest {
         b.run(3, 0, 3);
         b.tear(0, 8);
         b.teach(4);
+        b.teach(0);
         b.box(3);
         Checks.putLaw(b, "r = 3");
         Checks.putSecond(b, "end 3;end 3");
@@ -117,8 +118,26 @@ public final class RecordTest {
         b.box(9);
         Checks.putLaw(b, "r = 4");
         Checks.putSecond(b, "end 4");
-        Checks.putBody(b, "end 8;end 8");
+        b.teach(0);
+        Checks.putBody(b, "end 8;end 4");
         b.tries(2);
+        MendBench c = Checks.withBody("end 1");
+        for (int i = 1; i <= 6; i++) {
+            c.tries(2);
+            c.make(1);
+        }
+        c.image();
+        for (int i = 1; i <= 6; i++) {
+            c.tries(2);
+            c.make(1);
+        }
+        c.back();
+        for (int i = 6; i >= 1; i--) {
+            int end = i;
+            Checks.due("image: taken back " + i, true, c::takeBack);
+            Checks.due("image: as it was " + i, end, () -> c.ends(0, 0, false));
+        }
+        Checks.due("image: no more", false, c::takeBack);
         for (int turn = 0; turn < 2; turn++) {
             Checks.due("back " + turn, true, b::back);
             for (int i = 0; i < 13; i++) {
@@ -133,6 +152,7 @@ public final class RecordTest {
             Checks.due("the body", 2, () -> b.ends(0, 0, false));
             Checks.due("the run", 3, () -> b.look(2, 0));
             Checks.due("taught", 2, () -> b.teach(4));
+            Checks.due("taught 0", 2, () -> b.teach(0));
             Checks.due("tried on", 0, () -> b.tries(1));
             Checks.due("taken back", true, b::takeBack);
             Checks.due("as it was made of", 1, () -> b.ends(0, 0, false));

@@ -80,7 +80,7 @@ public final class TextsTest {
 
     private static void wrongBodies() {
         // '^' stands ahead of the first wrong byte
-        String[] texts = {"^", "  ^", "^set", "^se", "set ^", "set ^x = 1", "set ^ab = 1", "set ^1 = 1", "set a^", "set a ^+ 1",
+        String[] texts = {"^", "  ^", "^set", "^se", "set ^", "set ^x = 1", "set ^ab = 1", "set ^az = 1", "set ^za = 1", "^setz a = 1", "^zset a = 1", "end ^z", "end a^`", "end 9^:", "end ^/9", "end ^{", "set ^1 = 1", "set a^", "set a ^+ 1",
             "set a = ^", "set a = ^e", "set a = ^aa", "set a = ^100", "set a = ^001", "set a = 1 + ^", "set a = 1 + ^123",
             "set a = 1 ^< 2", "set a = 1 ^b", "set a = 1 + 2 ^+ 3", "set a = 1;^", "set a = 1 ; ^", "set a = 1;^;", "^;end a",
             "^end", "skip ^0 if a < b", "skip ^10 if a < b", "skip ^01 if a < b", "skip ^a if a < b", "skip 1^", "skip 1 ^of a < b",
