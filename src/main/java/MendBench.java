@@ -671,10 +671,14 @@ public final class MendBench {
         needs[0] = 0;
         for (int set = 0; set < wrong && set < needs.length; set++) {
             if (needs[set] < TOO_MANY) {
-                addGains(set, Integer.lowestOneBit(wrong & ~set), needs[set] + 1, size);
+                addGains(set, lowestBit(wrong & ~set), needs[set] + 1, size);
             }
         }
         return wrong >= 0 && wrong < needs.length ? needs[wrong] : NONE;
+    }
+
+    private static int lowestBit(int bits) {
+        return bits & -bits;
     }
 
     /** Of a covered set: the sets that one gain more, with this RUN in it, makes. */

@@ -4,8 +4,14 @@ import java.nio.charset.StandardCharsets;
 final class Checks {
     private static int answers;
     private static int wrong;
+    private static String sentence = "";
 
     private Checks() { }
+
+    /** The document's sentence to which the answers that follow belong: a wrong one is told with it. */
+    static void of(String told) {
+        sentence = "[" + told + "] ";
+    }
 
     /** One call of the face. */
     interface Call {
@@ -24,7 +30,7 @@ final class Checks {
         answers++;
         if (!want.equals(got)) {
             wrong++;
-            System.out.println(name + " answered " + got + ", due is " + want);
+            System.out.println(sentence + name + " answered " + got + ", due is " + want);
         }
     }
 
@@ -45,6 +51,19 @@ final class Checks {
     static MendBench withBody(String text) {
         MendBench bench = new MendBench();
         putBody(bench, text);
+        return bench;
+    }
+
+    /** A bench with a BODY and RUNS, three numbers each: x, y and the number that it must end with. */
+    static MendBench withRuns(String text, int... runs) {
+        MendBench bench = withBody(text);
+        for (int i = 0; i + 2 < runs.length; i += 3) {
+            int x = runs[i];
+            int y = runs[i + 1];
+            int must = runs[i + 2];
+            int number = i / 3;
+            due("run " + number, number, () -> bench.run(x, y, must));
+        }
         return bench;
     }
 
