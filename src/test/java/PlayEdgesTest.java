@@ -561,6 +561,11 @@ public final class PlayEdgesTest {
         Checks.due("y keeps 4 4", 1, b::heaps);
         b.run(4, 2, 4);
         Checks.due("y breaks 4 2", -1, b::heaps);
+        MendBench told = Checks.withRuns("end x", 3, 3, 4, 4, 4, 4);
+        Checks.putBody(told, "end x + 0");
+        Checks.due("x + 1 breaks 4 4", -1, told::heaps);
+        MendBench untold = Checks.withRuns("end x + 0", 3, 3, 4);
+        Checks.due("0 0 is not told: x + 1 need not keep it", 1, untold::heaps);
         MendBench two = Checks.withRuns("skip 1 if x < 5;end 1;end 2", 9, 0, 2, 5, 0, 2, 0, 0, 2);
         Checks.due("by one that keeps the third", 1, two::heaps);
         MendBench each = Checks.withRuns("skip 1 if x < 5;end 1;end 2", 9, 0, 0, 0, 0, 2, 8, 0, 2);

@@ -122,6 +122,10 @@ public final class RulesTest {
             "hashCode", "toString", "Error", "static {", "package ", "native", "volatile", "goto", "var "}) {
             need(!Pattern.compile("(?<![A-Za-z])" + Pattern.quote(word)).matcher(code).find(), "no " + word);
         }
+        Matcher calls = Pattern.compile("\\b(Math|Integer|Long|String|System|Arrays)\\.(\\w+)").matcher(code);
+        while (calls.find()) {
+            need(List.of("Math.abs", "Math.max", "Math.min", "Integer.bitCount").contains(calls.group()), "no call of " + calls.group());
+        }
         Matcher imports = Pattern.compile("import ([^;]*);").matcher(code);
         while (imports.find()) {
             need(imports.group(1).equals("java.util.NoSuchElementException"), "no import of " + imports.group(1));

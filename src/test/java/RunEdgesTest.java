@@ -352,6 +352,9 @@ public final class RunEdgesTest {
             Checks.due("run " + i, right[i], () -> b.look(k, 4));
         }
         Checks.due("wrong ones", 3, () -> b.count(2));
+        MendBench one = Checks.withRuns("end 9 * x", 1, 0, 8);
+        Checks.due("a run that is not told is neither: 0 0 would be right", 1, () -> one.count(2));
+        Checks.due("none is right", 0, () -> one.done(0, false));
         Checks.putBody(b, "end 3");
         Checks.due("wrong ones of another body", 4, () -> b.count(2));
         Checks.due("right now", 1, () -> b.look(3, 4));
