@@ -35,11 +35,16 @@ final class Checks {
     }
 
     static void feedText(MendBench bench, String text) {
+        feedText(bench, text, 0);
+    }
+
+    /** A text, and up to twenty bytes more that the TAPE's end cuts off again: they must tell nothing. */
+    static void feedText(MendBench bench, String text, int cut) {
         byte[] bytes = text.getBytes(StandardCharsets.ISO_8859_1);
-        for (int i = 0; i < bytes.length; i += 20) {
+        for (int i = 0; i <= bytes.length && i < 400; i += 20) {
             int[] n = new int[5];
             for (int k = 0; k < 20; k++) {
-                n[k / 4] = n[k / 4] << 8 | (i + k < bytes.length ? bytes[i + k] & 255 : 0);
+                n[k / 4] = n[k / 4] << 8 | (i + k < bytes.length ? bytes[i + k] & 255 : cut);
             }
             bench.feed(n[0], n[1], n[2], n[3], n[4]);
         }

@@ -13,6 +13,7 @@ public final class MendEdgesTest {
         graft();
         alike();
         doubles();
+        doublesOnNothing();
         doublesOnUnlikeLines();
         mendTold();
         mendRefused();
@@ -250,7 +251,10 @@ public final class MendEdgesTest {
 
     /** All ALIVE ones of a BODY, a MEND of which makes its RUNS right: each number is that of its two single MENDS. */
     private static void pairsOf(String text, int alive, int... runs) {
-        MendBench b = Checks.withRuns(text, runs);
+        pairsOn(text, Checks.withRuns(text, runs), alive);
+    }
+
+    private static void pairsOn(String text, MendBench b, int alive) {
         List<int[]> pairs = pairs(b);
         int singles = b.count(3);
         Checks.due("doubles of " + text, pairs.size(), () -> b.count(4));
@@ -305,6 +309,47 @@ public final class MendEdgesTest {
         Checks.due("out", 2, () -> b.alive(0, 1));
         Checks.due("7, behind the move", 6, () -> b.alive(0, 2));
         Checks.due("both", 7, () -> b.aliveEnds(0, 3, 3));
+    }
+
+    /** From now on a LINE does nothing; a LAW that nothing keeps puts out what is alive ahead of that MEND. */
+    private static void makeOut(MendBench b, int line) {
+        int out = 0;
+        while (b.mend(out, 0) != 3 || b.mend(out, 1) != line) {
+            out++;
+        }
+        Checks.putLaw(b, "1 = 2");
+        b.tries(out);
+        b.bar();
+        b.tries(1);
+        int number = out;
+        Checks.due("out of line " + line, number, () -> b.alive(0, 0));
+        b.make(0);
+        Checks.due("it does nothing", 4, () -> b.line(-1, line, 0));
+    }
+
+    private static void doublesOnNothing() {
+        Checks.of("DOUBLE ones: on a LINE that does nothing are its grafts, of which the first is behind its MOVE");
+        MendBench b = Checks.withBody("set b=b+2;set c=1;set d=3;end b");
+        makeOut(b, 2);
+        b.run(0, 0, 5);
+        // names 5, V 3, signs 4, bounds 2, OUT, MOVE, GRAFT 3; V 3, bounds 2, OUT, MOVE, GRAFT 3; MOVE, GRAFT 3; names 5, OUT, GRAFT 3
+        Checks.due("singles", 19 + 10 + 4 + 9, () -> b.count(3));
+        Checks.due("doubles", 18 * (9 + 3 + 9) + 9 * (3 + 9) + 3 * 9, () -> b.count(4));
+        // b + 3 on the first LINE, and its graft on the second one or on the third one
+        pairsOn("b + 3 and b + 2", b, 2);
+        Checks.due("b + 3, first", 13, () -> b.alive(0, 1));
+        Checks.due("graft on the second", 26, () -> b.alive(0, 2));
+        Checks.due("b + 3 again", 13, () -> b.alive(1, 1));
+        Checks.due("graft on the third, behind its move", 30, () -> b.alive(1, 2));
+        Checks.due("both", 5, () -> b.aliveEnds(1, 9, 9));
+        MendBench two = Checks.withBody("set a=1;set b=2;set c=3;set d=4;end x");
+        makeOut(two, 1);
+        makeOut(two, 0);
+        two.run(5, 9, 9);
+        // GRAFT 3; MOVE, GRAFT 3; V 3, bounds 2, OUT, MOVE, GRAFT 4, twice; names 5, OUT, GRAFT 4
+        Checks.due("singles of two that do nothing", 3 + 4 + 11 + 11 + 10, () -> two.count(3));
+        // "end y" on the last LINE, alone and with each that is no "end x" ahead of it
+        pairsOn("end y", two, 1 + 2 + 2 + 9 + 9);
     }
 
     private static void doublesOnUnlikeLines() {

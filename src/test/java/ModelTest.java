@@ -58,7 +58,29 @@ public final class ModelTest {
         return atom() + blanks() + oneOf("<", ">", "=") + blanks() + atom();
     }
 
+    /** A BODY that goes back so long as a variable that grows is small: it mostly ends, also where it would go back too far. */
+    private static String loopText(int most) {
+        String grows = oneOf("a", "b", "c");
+        StringBuilder text = new StringBuilder();
+        int left = Math.max(0, Math.min(most, 10) - 2);
+        for (int i = pick(Math.min(left, 2) + 1); i > 0; i--, left--) {
+            text.append(lineText()).append(";");
+        }
+        text.append("set ").append(grows).append("=").append(grows).append("+").append(oneOf("1", "1", "2", "x", "y"));
+        for (int i = pick(Math.min(left, 2) + 1); i > 0; i--, left--) {
+            text.append(";").append(lineText());
+        }
+        text.append(";back ").append(1 + pick(pick(2) == 0 ? 9 : 4)).append(" if ").append(grows).append("<").append(1 + pick(9));
+        for (int i = pick(Math.min(left, 2) + 1); i > 0; i--, left--) {
+            text.append(";").append(lineText());
+        }
+        return text.toString();
+    }
+
     private static String bodyText(int most) {
+        if (most > 1 && pick(3) == 0) {
+            return loopText(most);
+        }
         int n = 1 + pick(most);
         StringBuilder text = new StringBuilder(blanks());
         String last = lineText();
@@ -104,10 +126,10 @@ public final class ModelTest {
     private static void feedText(MendBench bench, Model model, String text) {
         byte[] bytes = text.getBytes(StandardCharsets.ISO_8859_1);
         int length = Math.min(bytes.length, 400);
-        for (int i = 0; i < length; i += 20) {
+        for (int i = 0; i <= length; i += 20) {
             int[] n = new int[5];
             for (int k = 0; k < 20; k++) {
-                n[k / 4] = n[k / 4] << 8 | (i + k < bytes.length ? bytes[i + k] & 255 : 0);
+                n[k / 4] = n[k / 4] << 8 | (i + k < bytes.length ? bytes[i + k] & 255 : "a0 ;7+".charAt(pick(6)));
             }
             due(model.feed(n[0], n[1], n[2], n[3], n[4]), bench.feed(n[0], n[1], n[2], n[3], n[4]));
         }
@@ -143,7 +165,7 @@ public final class ModelTest {
         switch (kind) {
             case 0: return new int[] {0, pick(4) == 0 ? 10 : 1 + pick(6), pick(3)};
             case 1: return new int[] {1};
-            case 2: return new int[] {2, some(8), some(8), dueFor()};
+            case 2: return new int[] {2, some(pick(3) == 0 ? 16 : 8), some(pick(3) == 0 ? 16 : 8), dueFor()};
             case 3: return new int[] {3, some(16), some(16), pick(4) == 0 ? 1 : 0};
             case 4: return new int[] {4, index(m.s.runs.size()), some(8)};
             case 5: return new int[] {5, index(lines), pick(2)};
@@ -357,12 +379,139 @@ public final class ModelTest {
         }
     }
 
+    /** Each MEND that is tried, seen by its ROW, of a BODY with LINES that do nothing, or that are alike. */
+    private static void seenTries(int number) {
+        seed = number * 15485863L + 3;
+        MendBench bench = new MendBench();
+        Model model = new Model();
+        oneCall(bench, model, new int[] {0, 2 + pick(5), 0}, number, -9);
+        for (int i = pick(4); i > 0 && !model.s.body.isEmpty(); i--) {
+            makeOut(bench, model, number, -i);
+        }
+        seek(model);
+        for (int i = 1 + pick(3); i > 0; i--) {
+            oneCall(bench, model, new int[] {2, pick(5), pick(5), NEXT_DUE}, number, -1);
+        }
+        oneCall(bench, model, new int[] {12, pick(pick(2) == 0 ? 400 : 100)}, number, -1);
+        for (int i = 0; i < 20; i++) {
+            oneCall(bench, model, new int[] {12, 8}, number, i);
+            for (int row = 0; row < 8; row++) {
+                oneCall(bench, model, new int[] {26, row, 1}, number, i);
+            }
+        }
+        for (int i = 0; i < 30; i++) {
+            oneCall(bench, model, new int[] {13, i, pick(3)}, number, i);
+        }
+    }
+
+    /** All that RUNS tell of a BODY, mostly of one that goes back and ends. */
+    private static void looked(int number) {
+        seed = number * 32452843L + 11;
+        MendBench bench = new MendBench();
+        Model model = new Model();
+        oneCall(bench, model, new int[] {0, 3 + pick(8), 0}, number, -9);
+        int runs = 1 + pick(pick(2) == 0 ? 13 : 4);
+        boolean oneFault = pick(2) == 0;
+        seek(model);
+        for (int i = 0; i < runs; i++) {
+            if (!oneFault) {
+                seek(model);
+            }
+            oneCall(bench, model, new int[] {2, pick(6), pick(6), NEXT_DUE}, number, -1);
+        }
+        for (int i = 0; i < runs; i++) {
+            for (int what = 0; what < 7; what++) {
+                oneCall(bench, model, new int[] {4, i, what}, number, i);
+            }
+        }
+        for (int i = 0; i < 11; i++) {
+            oneCall(bench, model, new int[] {5, i, 0}, number, i);
+            oneCall(bench, model, new int[] {5, i, 1}, number, i);
+        }
+        for (int what = 0; what < 3; what++) {
+            oneCall(bench, model, new int[] {6, what}, number, what);
+            oneCall(bench, model, new int[] {3, odd(), odd(), 0}, number, what);
+        }
+    }
+
+    /** One program after another is MADE, TAKEN BACK, or gone back to. */
+    private static void oftenMade(int number) {
+        seed = number * 49979687L + 5;
+        MendBench bench = new MendBench();
+        Model model = new Model();
+        oneCall(bench, model, new int[] {0, 1 + pick(4), 0}, number, -1);
+        for (int i = 0; i < 24; i++) {
+            oneCall(bench, model, new int[] {12, pick(30)}, number, i);
+            oneCall(bench, model, new int[] {24, index(model.s.kept.size())}, number, i);
+            int k = pick(10);
+            oneCall(bench, model, new int[] {k < 2 ? 25 : k == 2 ? 30 : k == 3 ? 31 : 9}, number, i);
+            for (int line = 0; line < model.s.body.size(); line++) {
+                oneCall(bench, model, new int[] {8, -1, line, pick(6)}, number, i);
+            }
+        }
+        for (int i = 0; i < 8; i++) {
+            oneCall(bench, model, new int[] {25}, number, i);
+            oneCall(bench, model, new int[] {3, pick(16), pick(16), 0}, number, i);
+            oneCall(bench, model, new int[] {9}, number, i);
+        }
+    }
+
+    /** The TAPE grows and is cut, and a text is read from it. */
+    private static void fedTape(int number) {
+        seed = number * 67867967L + 1;
+        MendBench bench = new MendBench();
+        Model model = new Model();
+        for (int i = 0; i < 40; i++) {
+            call = "tape " + number + " call " + i;
+            if (pick(3) != 0) {
+                int[] n = new int[5];
+                String text = oneOf("end 1;end 2;end 3;  ", "skip 3 if x<y;end 4;", "r<1 or not(r<8) and ", "                    ", "end 7 end 8 end 9 en");
+                for (int k = 0; k < 20; k++) {
+                    n[k / 4] = n[k / 4] << 8 | text.charAt(k);
+                }
+                due(model.feed(n[0], n[1], n[2], n[3], n[4]), bench.feed(n[0], n[1], n[2], n[3], n[4]));
+            } else {
+                int to = pick(4) == 0 ? odd() : pick(pick(2) == 0 ? 401 : model.tape.size() + 2);
+                due(model.end(to) ? 1 : 0, bench.end(to) ? 1 : 0);
+            }
+            if (pick(16) == 0) {
+                both(bench, model, new int[] {pick(2)}, pick(2) == 0);
+                both(bench, model, new int[] {99}, false);
+                due(model.count(0), bench.count(0));
+                due(model.count(11), bench.count(11));
+            }
+        }
+    }
+
+    /** A LINE does nothing from now on: the one MEND that is kept then is MADE. */
+    private static void makeOut(MendBench bench, Model model, int number, int i) {
+        java.util.List<Integer> outs = new java.util.ArrayList<>();
+        java.util.List<Model.Mend> all = Model.singles(model.s.body);
+        for (int k = 0; k < all.size(); k++) {
+            if (all.get(k).form() == 3) {
+                outs.add(k);
+            }
+        }
+        feedText(bench, model, "1=2");
+        both(bench, model, new int[] {1}, false);
+        if (!outs.isEmpty()) {
+            oneCall(bench, model, new int[] {12, outs.get(pick(outs.size()))}, number, i);
+            both(bench, model, new int[] {20}, false);
+            oneCall(bench, model, new int[] {12, 1}, number, i);
+            oneCall(bench, model, new int[] {24, 0}, number, i);
+        }
+    }
+
     public static void main(String[] args) {
         int from = args.length > 0 ? Integer.parseInt(args[0]) : 0;
-        int to = args.length > 1 ? Integer.parseInt(args[1]) : 1500;
+        int to = args.length > 1 ? Integer.parseInt(args[1]) : 800;
         for (int i = from; i < to && wrong < 20; i++) {
             oneRun(i);
             mendedRuns(i);
+            seenTries(i);
+            looked(i);
+            oftenMade(i);
+            fedTape(i);
         }
         System.out.println(answers + " answers, " + thrown + " exceptions, " + wrong + " wrong");
         if (wrong != 0) {

@@ -88,6 +88,15 @@ public final class RunEdgesTest {
         end("set a = a + x;set b = 1;set b = 1;set b = 1;set b = 1;set b = 1;set b = 1;set b = 1;set b = 1;back 9 if a < 4", 2, 0, 4);
         end("set a = a + 1;set b = b + x;set b = b + 0;set b = b + 0;set b = b + 0;set b = b + 0;set b = b + 0;set b = b + 0;"
             + "set b = b + 0;back 8 if b < 4", 2, 0, 1);
+        Checks.of("back: the first one at least, and nothing is done ahead of it");
+        for (int count = 2; count <= 9; count++) {
+            int c = count;
+            MendBench b = Checks.withRuns("set a=a+1;set b=x;back " + count + " if a<4;end a", 0, 0, 4);
+            Checks.due("lines done, back " + c, 13, () -> b.look(0, 5));
+            MendBench first = Checks.withRuns("back " + count + " if x=1;end 7", 1, 0, 7);
+            Checks.due("done a hundred times, back " + c, 100, () -> first.look(0, 5));
+            Checks.due("but the first one none, back " + c, 0, () -> first.done(1, true));
+        }
     }
 
     private static void ends() {
@@ -242,6 +251,15 @@ public final class RunEdgesTest {
         Checks.due("all hundred", 100, () -> full.look(0, 5));
         Checks.due("right at the hundredth", 1, () -> full.look(0, 4));
         Checks.due("the hundredth is done", 1, () -> full.done(3, false));
+        Checks.of("look 5: behind the last LINE nothing is done");
+        String[] texts = {"set a=5", "set a=5;set b=6", "skip 1 if 0=0", "skip 9 if 0=0;end 1", "skip 1 if 0=0;end 1", "skip 1 if 1=0",
+            "back 1 if 1=0", "set a=5;skip 1 if 0=0;set a=6;set c=7", "end 1", "end 1;end 2"};
+        int[] lines = {1, 2, 1, 1, 1, 1, 1, 3, 1, 1};
+        for (int i = 0; i < texts.length; i++) {
+            int k = i;
+            MendBench b2 = Checks.withRuns(texts[i], 0, 0, 0);
+            Checks.due(texts[i], lines[i], () -> b2.look(0, 5));
+        }
     }
 
     private static void inputsOfRuns() {
@@ -338,7 +356,7 @@ public final class RunEdgesTest {
             Checks.due("what " + what, "NoSuchElementException", () -> b.look(0, what));
             Checks.due("run 2, what " + what, "IndexOutOfBoundsException", () -> b.look(2, what));
         }
-        for (int run : new int[] {-1, 2, 12, Integer.MIN_VALUE, Integer.MAX_VALUE}) {
+        for (int run : new int[] {-1, 2, 3, 4, 10, 11, 12, Integer.MIN_VALUE, Integer.MAX_VALUE}) {
             Checks.due("run " + run, "IndexOutOfBoundsException", () -> b.look(run, 0));
         }
     }

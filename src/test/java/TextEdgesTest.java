@@ -19,6 +19,7 @@ public final class TextEdgesTest {
         blanks();
         moreMustCome();
         fullTape();
+        cutOff();
         anyByte();
         lawAtoms();
         lawWords();
@@ -29,12 +30,21 @@ public final class TextEdgesTest {
         Checks.finish();
     }
 
+    /** What stood behind the TAPE's end ahead of its being cut, by turns. */
+    private static final char[] CUT = {0, 'a', 'd', '0', '7', ' ', ';', '+', ')'};
+
     /** '^' stands ahead of the first wrong byte of a BODY; without one it is right. */
     private static void body(String marked) {
+        for (char cut : CUT) {
+            body(marked, cut);
+        }
+    }
+
+    private static void body(String marked, char cut) {
         String text = marked.replace("^", "");
         for (boolean second : new boolean[] {false, true}) {
             MendBench b = new MendBench();
-            Checks.feedText(b, text);
+            Checks.feedText(b, text, cut);
             int lines = text.split(";", -1).length;
             if (marked.contains("^")) {
                 Checks.due("body '" + marked + "'", "IllegalArgumentException", () -> b.body(second));
@@ -48,9 +58,15 @@ public final class TextEdgesTest {
     }
 
     private static void law(String marked) {
+        for (char cut : CUT) {
+            law(marked, cut);
+        }
+    }
+
+    private static void law(String marked, char cut) {
         String text = marked.replace("^", "");
         MendBench b = new MendBench();
-        Checks.feedText(b, text);
+        Checks.feedText(b, text, cut);
         if (marked.contains("^")) {
             Checks.due("law '" + marked + "'", "IllegalArgumentException", b::law);
             Checks.due("no law by '" + marked + "'", "IllegalStateException", b::bar);
@@ -107,6 +123,39 @@ public final class TextEdgesTest {
         Checks.due("one more is cut", true, () -> b.end(380));
         Checks.due("to 400 again", 400, () -> b.feed(0, 0, 0, 0, 0));
         Checks.due("400 are there", true, () -> b.end(400));
+    }
+
+    private static void cutOff() {
+        Checks.of("end: The TAPE has its first n bytes alone: what is cut off is in no word, NUMBER or blank");
+        String text = "end 12 + ab      if set 123";
+        String[] cuts = {"", "e", "en", "end", "end ", "end 1", "end 12", "end 12 ", "end 12 +", "end 12 + ", "end 12 + a"};
+        int[] faults = {0, 0, 0, 3, 4, -1, -1, -1, 8, 9, -1};
+        for (int i = 0; i < cuts.length; i++) {
+            int k = i;
+            MendBench b = new MendBench();
+            Checks.feedText(b, text);
+            Checks.due("cut to '" + cuts[i] + "'", true, () -> b.end(cuts[k].length()));
+            Checks.due("body '" + cuts[i] + "'", faults[i] < 0 ? 1 : "IllegalArgumentException", () -> b.body(false));
+            Checks.due("fault of '" + cuts[i] + "'", faults[i], b::fault);
+        }
+        MendBench b = new MendBench();
+        Checks.feedText(b, "end 99");
+        b.end(5);
+        b.body(false);
+        Checks.due("9 and no 99", 9, () -> b.ends(0, 0, false));
+        Checks.feedText(b, "not r > 1234 or xx");
+        Checks.due("to x", true, () -> b.end(17));
+        Checks.due("x, and nothing behind it", "IllegalArgumentException", b::law);
+        Checks.due("the law's end", 17, b::fault);
+        Checks.feedText(b, "not r > 1234");
+        Checks.due("to 12", true, () -> b.end(10));
+        Checks.due("12", true, b::law);
+        b.tries(1);
+        Checks.due("END is 8 by the first MEND", 8, () -> b.aliveEnds(0, 0, 0));
+        Checks.feedText(b, "r < 88");
+        Checks.due("to 8", true, () -> b.end(5));
+        Checks.due("below 8", true, b::law);
+        Checks.due("8 is not, on each input", 64, () -> b.prove(0, false));
     }
 
     private static void feedHighestFirst() {

@@ -385,7 +385,7 @@ public final class TryEdgesTest {
         Checks.due("no row", "NoSuchElementException", () -> b.row(0, 0));
         Checks.due("no row to tear", "NoSuchElementException", () -> b.tear(0, 0));
         b.tries(2);
-        for (int i : new int[] {-1, 2, 8, Integer.MIN_VALUE, Integer.MAX_VALUE}) {
+        for (int i : new int[] {-1, 2, 3, 6, 7, 8, Integer.MIN_VALUE, Integer.MAX_VALUE}) {
             Checks.due("row " + i, "NoSuchElementException", () -> b.row(i, 0));
             Checks.due("row " + i + " what 1", "NoSuchElementException", () -> b.row(i, 1));
             Checks.due("tear " + i, "NoSuchElementException", () -> b.tear(i, 1));
@@ -457,6 +457,18 @@ public final class TryEdgesTest {
         Checks.due("of another body none", -1, b::check);
         b.tries(1);
         Checks.due("the first row of another body", -1, b::check);
+        Checks.of("CHECK: of ROWS that are there alone");
+        for (int torn = 0; torn < 8; torn++) {
+            MendBench gone = Checks.withBody("end 5;end 6");
+            gone.tries(8);
+            gone.tear(torn, 1);
+            Checks.putBody(gone, "end 5;end 6");
+            for (int tried = 0; tried < 8; tried++) {
+                Checks.due("torn " + torn + " of another body, " + tried + " rows", -1, gone::check);
+                gone.tries(1);
+            }
+            Checks.due("torn " + torn + " of another body, 8 rows", -1, gone::check);
+        }
     }
 
     private static void teaching() {
