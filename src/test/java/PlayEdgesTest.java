@@ -10,6 +10,7 @@ public final class PlayEdgesTest {
         askedOfSeveral();
         ofFewer();
         ofThirty();
+        ofThoseLeft();
         lawHolds();
         lawBindings();
         provedAndBroken();
@@ -250,6 +251,30 @@ public final class PlayEdgesTest {
         Checks.due("thirty that end alike", 30, () -> alike.count(6));
         Checks.due("near", -1, () -> alike.input(false));
         Checks.due("asked: the run itself", 0, () -> alike.input(true));
+    }
+
+    private static void ofThoseLeft() {
+        Checks.of("NEAR, ASKED: of kept ALIVE ones, and not of those that were put out");
+        MendBench b = Checks.withRuns("end a;end y", 0, 0, 0);
+        // b, c, d, x, y
+        b.tries(5);
+        Checks.due("y apart", 1, () -> b.input(false));
+        Checks.due("x and y apart from the other three", 17, () -> b.input(true));
+        b.run(0, 1, 0);
+        Checks.due("four are left", 4, () -> b.count(6));
+        Checks.due("x apart", 16, () -> b.input(false));
+        Checks.due("x apart from three", 16, () -> b.input(true));
+        b.run(1, 0, 0);
+        Checks.due("three are left", 3, () -> b.count(6));
+        Checks.due("none apart", -1, () -> b.input(false));
+        Checks.due("three alike, at a RUN's", 0, () -> b.input(true));
+        MendBench barred = Checks.withRuns("end a;end y", 0, 0, 0);
+        barred.tries(5);
+        Checks.due("y apart ahead of the law", 1, () -> barred.input(false));
+        Checks.putLaw(barred, "r = x or r = 0");
+        Checks.due("y is barred", 1, barred::bar);
+        Checks.due("x apart now", 16, () -> barred.input(false));
+        Checks.due("x apart from three now", 16, () -> barred.input(true));
     }
 
     private static int mostAlike(MendBench b, int x, int y) {
@@ -568,6 +593,11 @@ public final class PlayEdgesTest {
         Checks.due("0 0 is not told: x + 1 need not keep it", 1, untold::heaps);
         MendBench two = Checks.withRuns("skip 1 if x < 5;end 1;end 2", 9, 0, 2, 5, 0, 2, 0, 0, 2);
         Checks.due("by one that keeps the third", 1, two::heaps);
+        // y + 1 for the second RUN; only x + 2 makes the third one right, and that breaks the first one
+        MendBench behind = Checks.withRuns("end x + 1", 1, 1, 2, 5, 3, 4, 4, 0, 6);
+        Checks.due("y + 1 keeps it", 10, () -> 10 * behind.mend(4, 2) + behind.mend(4, 3));
+        Checks.due("x + 2 does not", 11, () -> 10 * behind.mend(10, 2) + behind.mend(10, 3));
+        Checks.due("one that breaks it, behind one that does not", -1, behind::heaps);
         MendBench each = Checks.withRuns("skip 1 if x < 5;end 1;end 2", 9, 0, 0, 0, 0, 2, 8, 0, 2);
         Checks.due("end 0 for the first, another for the third", 2, each::heaps);
         each.run(7, 0, 1);
@@ -656,6 +686,18 @@ public final class PlayEdgesTest {
         Checks.due("x + 2: y + 2 is another, behind it x + 1 is as the body", 2, () -> doubt.putIn(10));
         MendBench first = Checks.withRuns("end x + y", 0, 1, 5);
         Checks.due("a + y is harmless at 0 1", 3, () -> first.putIn(0));
+        Checks.of("PUT IN: of the single MENDS of that faulty BODY, also where these are more or fewer than the BODY's");
+        // out of line 0; a = 5 - x, then a = 5 - a would be x again, but that is a DOUBLE one
+        MendBench fewer = Checks.withRuns("end x;set a=5-x", 1, 3, 0);
+        Checks.due("the fault ends with 4", 4, () -> endWith("set a=5-x", 1, 3));
+        Checks.due("missed", 0, () -> fewer.putIn(5));
+        // x + y on line 1 too: x + b, x + c and x + d are x, but behind them x * y and x / y are it at 3 1 alone
+        MendBench more = Checks.withRuns("set a=x+y;end x", 3, 1, 0);
+        Checks.due("27 mends", 27, () -> more.count(3));
+        Checks.due("graft on line 1", 51, () -> 10 * more.mend(26, 0) + more.mend(26, 1));
+        Checks.due("in doubt by the 33rd of 36", 2, () -> more.putIn(26));
+        more.run(3, 2, 0);
+        Checks.due("3 2 parts them", 1, () -> more.putIn(26));
         MendBench last = Checks.withRuns("end x + x", 1, 1, 9);
         Checks.due("x - x: of its mends x + x alone ends with 2", 1, () -> last.putIn(10));
     }
@@ -681,6 +723,10 @@ public final class PlayEdgesTest {
         Checks.of("PUT IN: on the BOX an END without a number is one too");
         MendBench divided = Checks.withRuns("end y / x", 1, 1, 0, 2, 6, 0, 3, 6, 0);
         Checks.due("0 / 0 is not 0", 1, () -> divided.putIn(12));
+    }
+
+    private static int endWith(String text, int x, int y) {
+        return Checks.withBody(text).ends(x, y, false);
     }
 
     private static int boxed(MendBench b, int n, int fault) {

@@ -321,6 +321,26 @@ public final class TextEdgesTest {
         law(" ".repeat(396) + "(r=1^");
         law(" ".repeat(395) + "(r=1)");
         law(" ".repeat(398) + "^no");
+        Checks.of("a word at the TAPE's last byte is one of those that can stand there, or none");
+        body(" ".repeat(397) + "^foo");
+        body(" ".repeat(397) + "^enc");
+        body(" ".repeat(397) + "^ene");
+        body(" ".repeat(396) + "^skiq");
+        body(" ".repeat(396) + "skip^");
+        body("end 1;" + " ".repeat(391) + "^eod");
+        body("skip 1" + " ".repeat(392) + "^of");
+        body("skip 1" + " ".repeat(392) + "^ig");
+        body("skip 1" + " ".repeat(392) + "if^");
+        body("end" + " ".repeat(396) + "^e");
+        body("end" + " ".repeat(396) + "d");
+        law(" ".repeat(397) + "^nor");
+        law(" ".repeat(397) + "not^");
+        law("r=1" + " ".repeat(394) + "^ant");
+        law("r=1" + " ".repeat(394) + "and^");
+        law("r=1" + " ".repeat(395) + "^on");
+        law("r=1" + " ".repeat(395) + "or^");
+        law("r=" + " ".repeat(397) + "x");
+        law("r=" + " ".repeat(397) + "^a");
     }
 
     private static void anyByte() {
